@@ -255,6 +255,11 @@ public final class PromisesTest {
         due("a law that never holds", write(x, "a&!a").amend(), 0);
         due("a law that always holds", write(x, "a|!a").amend(), 64);
         due("verdict", x.judge(0, 3), 1);
+        write(x, "!2[a,(b)]").amend();
+        int[] counted = {48, 3, 2, 1, 1, 2};
+        for (int what = 0; what < counted.length; what++) {
+            due("statute(" + what + ") of another law", x.statute(what), counted[what]);
+        }
     }
 
     // Promise 8
@@ -269,6 +274,8 @@ public final class PromisesTest {
         lawOf("a", 32, 1, 1, 0, 0, 0);
         lawOf("!!!f", 32, 32, 1, 3, 0, 0);
         lawOf("a|b&c", 40, 7, 3, 0, 0, 0);
+        lawOf("a|b|c", 56, 7, 3, 0, 0, 0);
+        lawOf("a&b&c", 8, 7, 3, 0, 0, 0);
         lawOf("(a|b)&c", 24, 7, 3, 0, 0, 1);
         lawOf("!a&b", 16, 3, 2, 1, 0, 0);
         lawOf("!(a&b)", 48, 3, 2, 1, 0, 1);
@@ -502,6 +509,19 @@ public final class PromisesTest {
         x.ask(0, 0, 1);
         due("left, a heard", x.judge(0, 4), 0);
         due("first, a heard", x.judge(0, 5), NONE);
+        write(x, "a&d").amend();
+        due("left, by another law", x.judge(0, 4), 1);
+        due("first, by another law", x.judge(0, 5), 3);
+        write(x, "a&e&!f").amend();
+        due("left, by a third law", x.judge(0, 4), 2);
+        due("first, by a third law", x.judge(0, 5), 4);
+        x = courtOf("j??????,v??????,s??????;!a&d");
+        due("left of j", x.judge(0, 4), 2);
+        due("left of v", x.judge(1, 4), 1);
+        due("first of v", x.judge(1, 5), 3);
+        due("left of s", x.judge(2, 4), 1);
+        due("first of s", x.judge(2, 5), 0);
+        due("first of j", x.judge(0, 5), 0);
     }
 
     // Promise 10 (what = 6)
