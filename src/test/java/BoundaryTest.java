@@ -657,6 +657,7 @@ public final class BoundaryTest {
         holdsWhere("a|b&!c", world -> (world & 1) != 0 || (world & 6) == 2);
         holdsWhere("!1[a,b]&!!f", world -> (world & 3) == 0 && (world & 32) != 0);
         holdsWhere("3[a,b,c]|3[d,e,f]", world -> (world & 7) == 7 || (world & 56) == 56);
+        holdsWhere("3[a,b,c]&3[d,e,f]", world -> world == 63);
         holdsWhere("2[a,b,c]&2[d,e,f]", world -> Integer.bitCount(world & 7) > 1 && Integer.bitCount(world & 56) > 1);
 
         sentence(9, "by a JUDGE who SAYS all as it is, whatever the JUDGES are");
